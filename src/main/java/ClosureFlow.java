@@ -120,7 +120,8 @@ public final class ClosureFlow {
 
     private final int[] codeOps = new int[CODE_CELLS];
     private final int[] codeNodes = new int[CODE_CELLS];
-    private final int[] codeArguments = new int[CODE_CELLS];
+    // Where a branch, a jump or a known call leads; the other instructions have no use for it.
+    private final int[] codeTargets = new int[CODE_CELLS];
     private int codeLength;
     private final int[] branchSpots = new int[MAX_CELLS];
     private final int[] entries = new int[MAX_LAMBDAS];
@@ -793,19 +794,19 @@ public final class ClosureFlow {
         for (int step = 0; step < MOST_STEPS && state != ~start; step++) {
             state = state >= 0 ? emitBefore(state) : emitAfter(~state);
         }
-        emit(OP_RETURN, start, 0);
+        emit(OP_RETURN, start);
     }
 
     private int emitBefore(int node) {
         switch (kinds[node]) {
             case VAR:
-                emit(OP_BOUND, node, 0);
+                emit(OP_BOUND, node);
                 return ~node;
             case NUM:
-                emit(OP_NUMBER, node, 0);
+                emit(OP_NUMBER, node);
                 return ~node;
             case LAM:
-                emit(OP_CLOSURE, node, 0);
+                emit(OP_CLOSURE, node);
                 return ~node;
             default:
                 return childAt(node, 0);
@@ -823,7 +824,7 @@ public final class ClosureFlow {
         if (kinds[parent] == APP) {
             emitCall(parent);
         } else {
-            emit(OP_COMBINE, parent, 0);
+            emit(OP_COMBINE, parent);
         }
         return ~parent;
     }
@@ -833,40 +834,39 @@ public final class ClosureFlow {
             int whenZero = childAt(node, 1);
             if (!liveNodes[whenZero]) {
                 // No number reaches the test, so a run that gets past it can only stick.
-                emit(OP_STICK, node, 0);
+                emit(OP_STICK, node);
                 return ~node;
             }
             branchSpots[node] = codeLength;
-            emit(OP_BRANCH, node, 0);
+            emit(OP_BRANCH, node);
             return whenZero;
         }
         int spot = branchSpots[node];
         if (place == 1) {
-            emit(OP_JUMP, node, 0);
-            codeArguments[spot] = codeLength;
+            emit(OP_JUMP, node);
+            codeTargets[spot] = codeLength;
             return childAt(node, 2);
         }
         // The jump over the else branch stands right before the place the branch leads to.
-        codeArguments[codeArguments[spot] - 1] = codeLength;
+        codeTargets[codeTargets[spot] - 1] = codeLength;
         return ~node;
     }
 
     private void emitCall(int node) {
         int site = siteOf(node);
         if (site == KNOWN) {
-            emit(OP_CALL_KNOWN, node, 0);
+            emit(OP_CALL_KNOWN, node);
         } else if (site == CHOICE) {
-            emit(OP_CALL_CHOICE, node, 0);
+            emit(OP_CALL_CHOICE, node);
         } else {
             // No lambda comes with an argument here, so a run that gets this far has a number.
-            emit(OP_STICK, node, 0);
+            emit(OP_STICK, node);
         }
     }
 
-    private void emit(int op, int node, int argument) {
+    private void emit(int op, int node) {
         codeOps[codeLength] = op;
         codeNodes[codeLength] = node;
-        codeArguments[codeLength] = argument;
         codeLength++;
     }
 
@@ -877,7 +877,7 @@ public final class ClosureFlow {
                 int functions = nodeFlows[childAt(codeNodes[at], 0)];
                 for (int lambda = 0; lambda < lambdas; lambda++) {
                     if (functions == 1 << lambda) {
-                        codeArguments[at] = entries[lambda];
+                        codeTargets[at] = entries[lambda];
                     }
                 }
             }
@@ -910,12 +910,12 @@ public final class ClosureFlow {
                 combine(node);
                 return at + 1;
             case OP_BRANCH:
-                return branch(node, at + 1, codeArguments[at]);
+                return branch(node, at + 1, codeTargets[at]);
             case OP_JUMP:
-                return codeArguments[at];
+                return codeTargets[at];
             case OP_CALL_KNOWN:
                 enterCall(node, at + 1);
-                return codeArguments[at];
+                return codeTargets[at];
             case OP_CALL_CHOICE:
                 return performChoice(node, at);
             case OP_STICK:

@@ -300,8 +300,8 @@ public final class PromiseTests {
     private static void promise3() {
         String fresh = everything(new ClosureFlow(48, 48, 64));
         for (String term : TERMS) {
-            for (int state = 0; state < 6; state++) {
-                ClosureFlow x = fed(state == 0 ? term + " " : term);
+            for (int state = 1; state < 6; state++) {
+                ClosureFlow x = fed(term);
                 if (state > 1) x.solve();
                 if (state > 2) x.compile();
                 if (state > 3) x.run(0);
@@ -318,6 +318,11 @@ public final class PromiseTests {
                 same(3, "all after clear and '" + term + "'", everything(x), everything(ran(SUM)));
             }
         }
+        ClosureFlow dead = ran(SUM);
+        dead.clear();
+        feed(dead, "@ L 7 L @ v0 v0");
+        due(3, "live nodes after clear", dead.solve(), 4);
+        same(3, "solution after clear", solution(dead), solution(solved("@ L 7 L @ v0 v0")));
         ClosureFlow x = fed("@ L +");
         x.clear();
         same(3, "clear() of an incomplete term", everything(x), fresh);
@@ -416,6 +421,9 @@ public final class PromiseTests {
         solution(SUM, new int[] {ANY, 1, ANY, 4, 2, 2, ANY, 2, 4, ANY, ANY, ANY, ANY, ANY, ANY, 4, 2, 2, ANY, ANY, ANY},
             new int[] {2, 2, ANY}, "111111111111111111111");
         solution(TWICE, new int[] {ANY, 1, ANY, ANY, 8, 2, ANY, ANY, 8, 4, ANY, 8, ANY, 6, ANY}, new int[] {8, ANY, ANY, 6}, "111111111111111");
+        // What the lambdas of one site answer comes together.
+        solution("@ ? 0 L 1 L L 2 7", new int[] {ANY | 4, 3, ANY, 1, ANY, 2, 4, 0, ANY}, new int[] {ANY, ANY, 0}, "111111101");
+        solution("@ ? 0 L L 2 L 1 7", new int[] {ANY | 2, 5, ANY, 1, 2, 0, 4, ANY, ANY}, new int[] {ANY, 0, ANY}, "111110111");
         // One binding for all calls: what one call gives reaches the answer of the other.
         solution("@ L + @ v0 1 @ v0 L 0 L v0",
             new int[] {ANY, 1, ANY, ANY | 2, 4, ANY, ANY | 2, 4, 2, 0, 4, ANY | 2}, new int[] {4, 0, ANY | 2}, "111111111011");
@@ -614,6 +622,8 @@ public final class PromiseTests {
         ends(OMEGA, OUT_OF_CALLS, 0, 6, 48, 2);
         ends(CLOSURE_LOOP, OUT_OF_CLOSURES, 0, 10, 43, 64);
         ends(SIXTEEN, FUNCTION, 1, -1, 4, 7);
+        // The most values that can wait at once: four in each of 48 frames.
+        ends("@ L @ v0 v0 L + 1 + 1 + 1 + 1 @ v0 v0", OUT_OF_CALLS, 0, 14, 48, 2);
         ends(new ClosureFlow(48, 4, 4), OMEGA, OUT_OF_CALLS, 0, 6, 4, 2);
         ends(new ClosureFlow(48, 4, 4), "@ L @ L @ L @ L 9 1 1 1 1", NUMBER, 9, -1, 4, 4);
         ends(new ClosureFlow(48, 4, 4), "@ L @ L @ L @ L @ 7 8 1 1 1 1", STUCK, 0, 8, 4, 4);
