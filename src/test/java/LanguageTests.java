@@ -133,7 +133,9 @@ public final class LanguageTests {
 
     private static void addMethod(Map<String, String> bodies, String head, String body) {
         Matcher found = HEAD.matcher(head.strip());
-        check(1, "this is a method: " + head.strip(), found.find());
+        boolean isMethod = found.find();
+        check(1, "this is a method: " + head.strip(), isMethod);
+        if (!isMethod) return;
         String name = found.group(1);
         check(10, name + " has at most seven parameters", found.group(2).split(",").length <= 7);
         check(10, name + " is short", body.strip().split("\n").length <= MOST_LINES);
